@@ -298,8 +298,6 @@ public final class StreetTest {
         Check.due("is warm enough", x.heatNext(0), 0);
         Check.due("gets nothing", x.pass(1), 0);
         Check.due("but is over", x.washer(0, 1), 3);
-        x.power(false);
-        x.undo();
         HaggleWash y = twoHeating(1, 1);
         y.power(false);
         Check.due("wanted without power too", y.boiler(6), 500);
