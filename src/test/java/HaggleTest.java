@@ -226,5 +226,22 @@ public final class HaggleTest {
         Check.due("what -1", x.lease(0, -1), -2);
         Check.due("what 5", x.lease(0, 5), -2);
         Check.due("what 4", x.lease(0, 4), 52);
+        HaggleWash y = Check.streetOf(5, 5, 5, 5);
+        y.haggle(2, 1, 1, 5, 9);
+        y.haggle(3, 2, 2, 20, 4);
+        y.pass(1);
+        y.keep();
+        int[] first = {1, 2, 1, 8, 5};
+        int[] second = {2, 3, 2, 3, 15};
+        for (int round = 0; round < 3; round++) {
+            for (int what = 0; what < 5; what++) {
+                Check.due("lease(0, " + what + ")", y.lease(0, what), first[what]);
+                Check.due("lease(1, " + what + ")", y.lease(1, what), second[what]);
+            }
+            y.pass(20);
+            Check.due("none", y.lease(0, 0), -1);
+            y.haggle(0, 3, 5, 900, 200);
+            y.restore();
+        }
     }
 }

@@ -13,7 +13,9 @@ public final class HistoryTest {
         restoreIsAnAct();
         textIsNoPart();
         housesThatWereTakenBack();
+        anotherHouseInItsPlace();
         forecastsChangeNothing();
+        forecastsKnowTheShares();
         Check.end();
     }
 
@@ -213,6 +215,40 @@ public final class HistoryTest {
         for (int what = 0; what < house.length; what++) {
             Check.due("house(1, " + what + ")", y.house(1, what), house[what]);
         }
+    }
+
+    private static void anotherHouseInItsPlace() {
+        HaggleWash x = new HaggleWash();
+        x.addHouse(9, 8, 7);
+        x.keep();
+        x.undo();
+        x.addHouse(2, 3, 4);
+        x.restore();
+        Check.due("shares of the snapshot", x.house(0, 0), 9);
+        Check.due("price of the snapshot", x.house(0, 2), 8);
+        Check.due("coins of the snapshot", x.house(0, 3), 7);
+        x.undo();
+        Check.due("shares", x.house(0, 0), 2);
+        Check.due("price", x.house(0, 2), 3);
+        Check.due("coins", x.house(0, 3), 4);
+    }
+
+    private static void forecastsKnowTheShares() {
+        HaggleWash x = Check.streetOf(1, 9);
+        Check.run(x, 0, "f60;h30");
+        Check.run(x, 1, "f60;h30");
+        x.set(2, 100);
+        x.pass(10);
+        int first = x.overIn(0);
+        int second = x.overIn(1);
+        Check.holds("more shares, less time", second < first);
+        x.pass(second);
+        Check.due("is over", x.washer(1, 0), 0);
+        Check.due("runs still", x.washer(0, 0), 1);
+        x.pass(first - second - 1);
+        Check.due("runs still", x.washer(0, 0), 1);
+        x.pass(1);
+        Check.due("is over", x.washer(0, 0), 0);
     }
 
     private static void forecastsChangeNothing() {

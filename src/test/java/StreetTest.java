@@ -5,6 +5,7 @@ public final class StreetTest {
         addHouse();
         setAndItsRanges();
         setAgainstStoreAndDoors();
+        setLeastCapacity();
         power();
         spinBeginsAnewWithPower();
         passAndItsRange();
@@ -14,6 +15,7 @@ public final class StreetTest {
         splitAgainWhatIsLeft();
         splitSingleUnits();
         splitWithoutShares();
+        splitOfOneShare();
         fill();
         heatIsAtMostWhatIsWanted();
         drainAndCooling();
@@ -110,6 +112,18 @@ public final class StreetTest {
         Check.due("safe heat below an open one", x.set(3, 20), -4);
         Check.due("safe heat out of its range", x.set(3, 19), -2);
         Check.due("another setting", x.set(1, 5), 200);
+    }
+
+    private static void setLeastCapacity() {
+        HaggleWash x = twoHeating(1, 1);
+        x.set(1, 0);
+        x.set(2, 2000);
+        Check.passLong(x, 23);
+        Check.due("store", x.boiler(0), 12000 - 23 * 500);
+        Check.due("below its range", x.set(0, 999), -2);
+        Check.due("below the store", x.set(0, 1000), 20000);
+        Check.due("capacity", x.boiler(1), 1000);
+        Check.due("as it is", x.set(0, 1000), -5);
     }
 
     private static void power() {
@@ -268,6 +282,37 @@ public final class StreetTest {
         x.set(2, 100);
         Check.due("lowest of those without shares", x.heatNext(0), 100);
         Check.due("the next one", x.heatNext(1), 0);
+    }
+
+    private static void splitOfOneShare() {
+        HaggleWash x = twoHeating(3, 1);
+        x.addHouse(1, 1, 9999);
+        x.haggle(2, 0, 3, 100, 5);
+        x.set(2, 11);
+        Check.due("no share", x.heatNext(0), 0);
+        Check.due("all of the shares", x.heatNext(1), 11);
+        HaggleWash y = Check.streetOf(1, 1);
+        Check.run(y, 0, "f60;h95");
+        Check.run(y, 1, "f60;h95");
+        y.pass(10);
+        y.set(2, 11);
+        // 5 each, then of the 1 that is left 0 each
+        Check.due("odd unit", y.heatNext(0), 6);
+        Check.due("part", y.heatNext(1), 5);
+        y.set(2, 13);
+        y.stop(1);
+        Check.due("alone", y.pass(1), 13);
+        HaggleWash z = Check.streetOf(1, 18, 1);
+        for (int i = 0; i < 3; i++) {
+            Check.run(z, i, "f60;h95");
+        }
+        z.pass(10);
+        z.set(2, 19);
+        // 0, 17 and 0; then of the 2 that are left 0, 1 and 0; then of the 1 that is left 0 each
+        Check.due("single unit", z.heatNext(0), 1);
+        Check.due("17 and 1", z.heatNext(1), 18);
+        Check.due("nothing", z.heatNext(2), 0);
+        Check.due("all of it", z.pass(1), 19);
     }
 
     private static void fill() {
