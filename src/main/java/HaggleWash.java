@@ -62,10 +62,9 @@ public final class HaggleWash {
     private final History history = new History();
     private final HeatSplit split = new HeatSplit();
     private final ProgramText text = new ProgramText();
-    private boolean hasSnapshot;
+    private boolean hasSnapshot = false;
 
     public HaggleWash() {
-        hasSnapshot = false;
     }
 
     // ---- street and boiler

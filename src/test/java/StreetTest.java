@@ -16,10 +16,12 @@ public final class StreetTest {
         splitSingleUnits();
         splitWithoutShares();
         splitOfOneShare();
+        splitForOneUnit();
         fill();
         heatIsAtMostWhatIsWanted();
         drainAndCooling();
         phasesTakeAMinute();
+        aLitreCools();
         stuckWashers();
         lockedDoors();
         leasesRunOut();
@@ -315,6 +317,19 @@ public final class StreetTest {
         Check.due("all of it", z.pass(1), 19);
     }
 
+    private static void splitForOneUnit() {
+        HaggleWash x = Check.streetOf(3, 7);
+        Check.run(x, 1, "f60;h95");
+        x.pass(9);
+        Check.run(x, 0, "f1;h16");
+        x.pass(1);
+        x.set(2, 10);
+        Check.due("wants 4, its part is 3", x.heatNext(0), 3);
+        x.pass(1);
+        Check.due("wants 1, its part is 3", x.heatNext(0), 1);
+        Check.due("the other has the rest", x.heatNext(1), 9);
+    }
+
     private static void fill() {
         HaggleWash x = Check.streetOf(1);
         Check.run(x, 0, "f14;f6;w1");
@@ -380,7 +395,19 @@ public final class StreetTest {
         for (int phase : phases) {
             x.pass(1);
             Check.due("phase", x.washer(0, 1), phase);
+            Check.due("warmth", x.washer(0, 4), 60 * x.washer(0, 2));
         }
+    }
+
+    private static void aLitreCools() {
+        HaggleWash x = Check.streetOf(1);
+        Check.run(x, 0, "f1;h46;w9");
+        x.pass(2);
+        Check.due("(46 - 15) / 30", x.washer(0, 4), 4 * 46 - 1);
+        x.pass(1);
+        Check.due("(45 - 15) / 30", x.washer(0, 4), 4 * 46 - 2);
+        x.pass(5);
+        Check.due("(44 - 15) / 30 is 0", x.washer(0, 4), 4 * 45 - 1);
     }
 
     private static void stuckWashers() {
