@@ -313,21 +313,33 @@ public final class HaggleBoundsTest {
 
     /** "when one is over, the later ones come one number earlier" */
     private static void leasesComeEarlier() {
-        int[] minutes = {2, 1, 3, 1, 2, 4};
-        HaggleWash x = Check.streetOf(20, 5);
-        for (int i = 0; i < minutes.length; i++) {
-            x.haggle(1, 0, 1 + i % 3, 90, minutes[i]);
+        // lender, borrower, shares, minutes, coins
+        int[][] leases = {{0, 1, 1, 2, 5}, {1, 2, 2, 1, 10}, {2, 0, 3, 3, 15}, {0, 2, 2, 1, 12}, {1, 0, 1, 2, 6},
+            {2, 1, 3, 4, 18}};
+        HaggleWash x = Check.streetOf(7, 7, 7);
+        for (int[] lease : leases) {
+            Check.due("deal", x.haggle(lease[1], lease[0], lease[2], lease[4], lease[3]), lease[4]);
         }
-        int[][] left = {{0, 2, 4, 5}, {2, 5}, {5}, {}};
-        for (int passed = 1; passed <= left.length; passed++) {
-            x.pass(1);
-            int[] there = left[passed - 1];
+        int[][] left = {{0, 1, 2, 3, 4, 5}, {0, 2, 4, 5}, {2, 5}, {5}, {}};
+        for (int passed = 0; passed < left.length; passed++) {
+            int[] there = left[passed];
             Check.due("leases", x.count(7), there.length);
             for (int i = 0; i < there.length; i++) {
-                Check.due("shares", x.lease(i, 2), 1 + there[i] % 3);
-                Check.due("minutes", x.lease(i, 3), minutes[there[i]] - passed);
+                for (int what = 0; what < 5; what++) {
+                    int due = leases[there[i]][what] - (what == 3 ? passed : 0);
+                    Check.due("lease(" + i + ", " + what + ") after " + passed, x.lease(i, what), due);
+                }
             }
             Check.due("behind the last", x.lease(there.length, 0), -1);
+            x.pass(1);
+        }
+        int[] paid = {21, 23, 22};
+        int[] received = {17, 16, 33};
+        for (int house = 0; house < paid.length; house++) {
+            Check.due("paid", x.house(house, 8), paid[house]);
+            Check.due("received", x.house(house, 9), received[house]);
+            Check.due("deals", x.house(house, 6), 2);
+            Check.due("shares", x.house(house, 0), 7);
         }
     }
 

@@ -10,6 +10,7 @@ public final class HistoryBoundsTest {
         mostStates();
         undoneStatesAreGone();
         eachActIsRecorded();
+        everyPartOfAState();
         actsThatLeaveAllAsItWas();
         noActsAreNotRecorded();
         snapshotInPlaceOfAnother();
@@ -131,6 +132,52 @@ public final class HistoryBoundsTest {
             Check.due("undo once more", z.undo(), 1);
             Check.holds("the states before it stay", Check.told(z).equals(earlier));
         }
+    }
+
+    /** "A state is everything but the text, the history and the snapshot." */
+    private static void everyPartOfAState() {
+        String before = Check.told(Bounds.busy());
+        HaggleWash x = Bounds.busy();
+        x.keep();
+        changeAll(x);
+        Check.holds("much is changed", !Check.told(x).equals(before));
+        Check.due("restore", x.restore(), 13);
+        Check.holds("restore brings all back", Check.told(x).equals(before));
+        undoneBy(before, y -> y.haggle(3, 2, 1, 9, 9), y -> y.power(false), y -> y.pass(40), y -> y.set(3, 50));
+        undoneBy(before, y -> y.start(3), y -> y.pass(2), y -> y.stop(3), y -> y.bail(3));
+        undoneBy(before, y -> y.stop(0), y -> y.readProgram(0), y -> y.start(0), y -> y.addHouse(9, 9, 9));
+        undoneBy(before, y -> y.haggle(3, 2, 1, 1, 9), y -> y.pass(60), y -> y.openDoor(1), y -> y.closeDoor(2));
+    }
+
+    @SafeVarargs
+    private static void undoneBy(String before, ToIntFunction<HaggleWash>... acts) {
+        HaggleWash x = Bounds.busy();
+        for (ToIntFunction<HaggleWash> act : acts) {
+            Check.holds("the act is taken", act.applyAsInt(x) >= 0);
+        }
+        for (int left = 3; left >= 0; left--) {
+            Check.due("undo", x.undo(), left);
+        }
+        Check.holds("undo brings all back", Check.told(x).equals(before));
+    }
+
+    private static void changeAll(HaggleWash x) {
+        x.addHouse(9, 9, 9);
+        x.haggle(3, 2, 1, 9, 9);
+        x.haggle(2, 3, 1, 1, 9);
+        x.bail(1);
+        x.start(3);
+        x.closeDoor(2);
+        x.readProgram(2);
+        x.start(2);
+        x.openDoor(1);
+        int[] values = {30000, 30, 30, 60};
+        for (int what = 0; what < values.length; what++) {
+            x.set(what, values[what]);
+        }
+        x.pass(40);
+        x.power(false);
+        x.pass(40);
     }
 
     /** An act is recorded too where the state behind it is as before. */

@@ -2,8 +2,9 @@ import java.util.Random;
 
 /** Long runs of calls, the same ones in every test run, answered by the program and by the model. */
 public final class ModelTest {
-    private static final int RUNS = 400;
-    private static final int CALLS = 512;
+    private static final int RUNS = 600;
+    // what the document promises of an object, less those of the longest act
+    private static final int CALLS = 512 - 70;
     private static final String[] TEXTS = {
         "f10;h60;w2;d;s3", "f60;h95;w9", "f3;h16;d;s1", "f60;f60;h40;d;s30", "h30", "f5;s2", "d;s30;d", "w99",
         "f6;h50;w1;f6;h90;w40", "f60;f60;f60;f60;f60;h95;d", "f1;h95;w60;d", "f1;h16;f1;h16;f1;h16;f1;h16;d;d;d;d",
@@ -62,7 +63,7 @@ public final class ModelTest {
     }
 
     private int house() {
-        return random.nextInt(30) == 0 ? n(-1, 8) : random.nextInt(Math.max(1, x.count(2)));
+        return random.nextInt(30) == 0 ? n(-1, 8) : random.nextInt(Math.max(1, m.count(2)));
     }
 
     private void addHouse() {
@@ -121,7 +122,7 @@ public final class ModelTest {
             due("clearText", x.clearText(), m.clearText());
             String text = TEXTS[n(0, n(0, 2) == 0 ? TEXTS.length - 1 : 11)];
             for (char c : text.toCharArray()) {
-                Check.due("type", x.type(c), m.type(c));
+                due("type", x.type(c), m.type(c));
             }
             if (n(0, 5) == 0) {
                 char c = "fhwds;0123456789 F".charAt(n(0, 17));

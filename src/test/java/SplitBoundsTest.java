@@ -35,8 +35,10 @@ public final class SplitBoundsTest {
             all += due[i];
         }
         int store = x.boiler(0);
+        int heatOut = x.boiler(5);
         Check.due(outflow + " split, pass", x.pass(1), all);
         Check.due(outflow + " split, store", x.boiler(0), Math.min(20000, store + x.boiler(2)) - all);
+        Check.due(outflow + " split, heat so far", x.boiler(5), heatOut + all);
         for (int i = 0; i < due.length; i++) {
             Check.due(outflow + " split, house(" + i + ", 4)", x.house(i, 4), before[i] + due[i]);
         }
@@ -140,6 +142,8 @@ public final class SplitBoundsTest {
         gets(lent(3, 5, false), 499, 249, 250, 0);
         gets(lent(3, 5, false), 500, 250, 250, 0);
         gets(lent(3, 5, false), 501, 250, 250, 0);
+        gets(lent(3, 1, false), 10, 0, 10, 0);
+        gets(lent(3, 1, false), 251, 1, 250, 0);
     }
 
     /** "If all get nothing in a round, the lowest of these houses gets 1 unit, and another round begins." */
@@ -189,6 +193,8 @@ public final class SplitBoundsTest {
         gets(x, 500, 1, 0);
         x.set(1, 2);
         gets(x, 500, 1, 1);
+        x.set(1, 77);
+        gets(x, 500, 39, 38);
         x.power(false);
         Check.due("without power", x.heatNext(0) + x.heatNext(1), 0);
         Check.due("without power", x.pass(1), 0);

@@ -104,45 +104,48 @@ public final class StreetBoundsTest {
     }
 
     /** A litre of 44 degrees, which never cools, behind a door that is closed. */
-    private static HaggleWash warmAndClosed() {
-        HaggleWash x = Check.streetOf(1, 1);
-        Check.run(x, 1, "f1;h44;w1");
+    private static HaggleWash warmAndClosed(int house) {
+        HaggleWash x = Check.streetOf(1, 1, 1);
+        Check.run(x, house, "f1;h44;w1");
         x.set(3, 44);
         x.pass(3);
-        Check.due("closed", x.washer(1, 5), 1);
+        Check.due("closed", x.washer(house, 5), 1);
         return x;
     }
 
-    private static HaggleWash warmAndOpen() {
-        HaggleWash x = warmAndClosed();
-        Check.due("openDoor", x.openDoor(1), 44);
+    private static HaggleWash warmAndOpen(int house) {
+        HaggleWash x = warmAndClosed(house);
+        Check.due("openDoor", x.openDoor(house), 44);
         return x;
     }
 
-    private static HaggleWash warmAndLocked() {
-        HaggleWash x = Check.streetOf(1, 1);
-        Check.run(x, 1, "f1;h44;w1");
+    private static HaggleWash warmAndLocked(int house) {
+        HaggleWash x = Check.streetOf(1, 1, 1);
+        Check.run(x, house, "f1;h44;w1");
         x.pass(3);
-        Check.due("locked", x.washer(1, 5), 2);
+        Check.due("locked", x.washer(house, 5), 2);
         return x;
     }
 
     /** "a washer whose door is not locked is hotter than the safe heat would be" */
     private static void safeHeatAndDoors() {
-        Bounds.refused("below a closed one", StreetBoundsTest::warmAndClosed, x -> x.set(3, 43), -4);
-        Bounds.refused("below an open one", StreetBoundsTest::warmAndOpen, x -> x.set(3, 43), -4);
-        Bounds.refused("as it is", StreetBoundsTest::warmAndClosed, x -> x.set(3, 44), -5);
-        Check.due("above a closed one", warmAndClosed().set(3, 45), 44);
-        Check.due("above an open one", warmAndOpen().set(3, 45), 44);
-        Bounds.refused("below a closed one and its range", StreetBoundsTest::warmAndClosed, x -> x.set(3, 19), -2);
-        for (int degrees : new int[] {20, 43, 44, 45}) {
-            Check.due("of a locked one", warmAndLocked().set(3, degrees), 40);
+        for (int i = 0; i < 3; i++) {
+            int house = i;
+            Bounds.refused("below a closed one", () -> warmAndClosed(house), x -> x.set(3, 43), -4);
+            Bounds.refused("below an open one", () -> warmAndOpen(house), x -> x.set(3, 43), -4);
+            Bounds.refused("as it is", () -> warmAndClosed(house), x -> x.set(3, 44), -5);
+            Check.due("above a closed one", warmAndClosed(house).set(3, 45), 44);
+            Check.due("above an open one", warmAndOpen(house).set(3, 45), 44);
+            Bounds.refused("below a closed one and its range", () -> warmAndClosed(house), x -> x.set(3, 19), -2);
+            for (int degrees : new int[] {20, 43, 44, 45}) {
+                Check.due("of a locked one", warmAndLocked(house).set(3, degrees), 40);
+            }
+            HaggleWash x = warmAndOpen(house);
+            x.set(3, 60);
+            Check.due("down to it", x.set(3, 44), 60);
+            x.bail(house);
+            Check.due("without water", x.set(3, 20), 44);
         }
-        HaggleWash x = warmAndOpen();
-        x.set(3, 60);
-        Check.due("down to it", x.set(3, 44), 60);
-        x.bail(1);
-        Check.due("without water", x.set(3, 20), 44);
     }
 
     /** "NONE if it is so already" */
@@ -193,9 +196,12 @@ public final class StreetBoundsTest {
             Bounds.refused("pass", x -> x.pass(minutes), -2);
         }
         for (int minutes : new int[] {1, 2, 59, 60}) {
-            HaggleWash x = new HaggleWash();
-            x.pass(minutes);
-            Check.due("minute", x.count(0), minutes);
+            HaggleWash x = Check.streetOf(1);
+            Check.run(x, 0, "f60;h95");
+            x.set(2, 10);
+            x.pass(10);
+            Check.due("heat of all minutes", x.pass(minutes), 10 * minutes);
+            Check.due("minute", x.count(0), 10 + minutes);
         }
     }
 
@@ -250,7 +256,9 @@ public final class StreetBoundsTest {
     /** "(1 to 4 and 6 only if there is power)" */
     private static void withoutPower() {
         HaggleWash x = Bounds.busy();
+        Check.due("power", x.count(1), 1);
         x.power(false);
+        Check.due("no power", x.count(1), 0);
         int warmth = x.washer(0, 4);
         int store = x.boiler(0);
         int heatIn = x.boiler(4);

@@ -8,6 +8,7 @@ public final class WasherBoundsTest {
         numbersOfHouses();
         startThatIsRefused();
         startAtOnce();
+        startOfOneThatWasStopped();
         stopThatIsRefused();
         stopLeavesWaterAndDoor();
         bailThatIsRefused();
@@ -108,6 +109,25 @@ public final class WasherBoundsTest {
             x.pass(12);
             Check.due("door", x.washer(0, 5), 1);
         }
+    }
+
+    /** A washer that was stopped within a phase begins with 0 minutes, and with the water that it has. */
+    private static void startOfOneThatWasStopped() {
+        HaggleWash x = Check.streetOf(1);
+        Check.run(x, 0, "f9;w5");
+        x.pass(1);
+        Check.due("stop within the first phase", x.stop(0), 0);
+        x.start(0);
+        Check.due("gone", x.washer(0, 6), 0);
+        Check.due("water", x.washer(0, 2), 6);
+        x.pass(2);
+        Check.due("water", x.washer(0, 2), 15);
+        x.pass(3);
+        Check.due("gone", x.washer(0, 6), 3);
+        Check.due("stop within the second phase", x.stop(0), 1);
+        x.start(0);
+        Check.due("phase", x.washer(0, 1), 0);
+        Check.due("gone", x.washer(0, 6), 0);
     }
 
     /** "NONE if it rests" */
