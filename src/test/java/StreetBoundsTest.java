@@ -181,6 +181,28 @@ public final class StreetBoundsTest {
         Check.due("spins still", x.washer(0, 0), 1);
         x.pass(1);
         Check.due("is over", x.washer(0, 0), 0);
+        HaggleWash z = Check.streetOf(1, 1, 1);
+        Check.run(z, 0, "f60;d");
+        Check.run(z, 1, "f1;h95;d");
+        Check.run(z, 2, "f60;d");
+        z.pass(12);
+        z.stop(0);
+        z.start(0);
+        z.set(2, 10);
+        z.stop(1);
+        z.start(1);
+        z.pass(2);
+        int[] gone = {2, 1, 4};
+        for (int i = 0; i < 2; i++) {
+            for (int house = 0; house < gone.length; house++) {
+                Check.due("no other phase anew", z.washer(house, 6), gone[house]);
+            }
+            z.power(false);
+            z.power(true);
+        }
+        HaggleWash u = Bounds.busy();
+        Check.due("one that is stuck does not run", u.power(false), 1);
+        Check.due("one that is stuck does not run", u.power(true), 1);
         HaggleWash y = spins();
         y.stop(0);
         y.power(false);

@@ -72,7 +72,11 @@ public final class ToldBoundsTest {
         int[] states = {1, 2, 0, 0};
         int[] phases = {1, 1, -5, -5};
         int[] gone = {3, 0, -5, -5};
+        int[] counts = {13, 1, 4, 1, 1, 2, 1, 1, 1, 0, 0, 0, 18, 4, 4};
         HaggleWash x = Bounds.busy();
+        for (int what = 0; what < counts.length; what++) {
+            Check.due("count(" + what + ")", x.count(what), counts[what]);
+        }
         for (int house = 0; house < states.length; house++) {
             Check.due("state", x.washer(house, 0), states[house]);
             Check.due("phase", x.washer(house, 1), phases[house]);
